@@ -51,7 +51,7 @@ public final class OneEach {
     }
     draft.become(town);
     int answer = text.readInto(draft, shelves[d]);
-    if (answer >= 0) {
+    if (answer > 0) {
       town.become(draft);
     }
     return answer;
@@ -1373,7 +1373,8 @@ public final class OneEach {
 
     private boolean isOpenAs(Town now, int kind, int who, int other, int to) {
       tried.become(kind, who, other, to);
-      return isOpen(now, tried);
+      attempt(now, tried);
+      return then.isWantedSince(now, true) && then.isLawful();
     }
 
     private boolean anyOpen(Town now) {
@@ -1454,7 +1455,7 @@ public final class OneEach {
       }
       for (int who = 0; who < t.mind.people; who++) {
         int home = t.mind.homes[who];
-        for (int to = 0; (moved >> who & 1) == 0 && to < t.mind.streets; to++) {
+        for (int to = 0; ((moved >> who) & 1) == 0 && to < t.mind.streets; to++) {
           if (t.mind.wantsToGo(who, to)) {
             t.steps[done] = 10 * who + to;
             t.mind.homes[who] = to;
@@ -1522,7 +1523,7 @@ public final class OneEach {
       for (int person = 0; person < mind.people; person++) {
         if (mind.homes[person] != NOWHERE) {
           z = z * 1103515245 + 12345;
-          if ((z & Integer.MAX_VALUE) / 65536 % 100 < death) {
+          if ((z & 0x7FFFFFFF) / 65536 % 100 < death) {
             mind.homes[person] = NOWHERE;
             gone++;
           }

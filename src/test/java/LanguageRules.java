@@ -1,0 +1,125 @@
+import java.io.IOException;
+import java.lang.reflect.Field;
+import java.lang.reflect.Method;
+import java.lang.reflect.Modifier;
+import java.nio.file.Files;
+import java.nio.file.Path;
+import java.util.ArrayList;
+import java.util.List;
+import java.util.Set;
+import java.util.TreeSet;
+import java.util.regex.Matcher;
+import java.util.regex.Pattern;
+
+/** Those rules of ../shared/LANGUAGE.md that can be seen from outside or in the text of the program. */
+public final class LanguageRules {
+  private static final Path PROGRAM = Path.of("src/main/java/OneEach.java");
+  private static final Path DOCUMENT = Path.of("../shared/DOC.md");
+  private static final String[] FORBIDDEN = {
+    "->", "::", "@", "\\bassert\\b", "\\bsynchronized\\b", "\\bfinally\\b", "\\binstanceof\\b", "\\brecord\\b",
+    "\\bvar\\b", "\\bprotected\\b", "\\bNullPointerException\\b", "\\bClassCastException\\b", "\\bException\\b",
+    "\\bThrowable\\b", "ArrayIndexOutOfBounds", "NegativeArraySize", "Exact\\(", "MAX_VALUE", "MIN_VALUE",
+    "\\bgetMessage\\b", "\\bSystem\\.(?!arraycopy)", "\\bString\\b", "\\bdouble\\b", "\\bfloat\\b", "\\brandom\\b",
+    "^package ", "^import (?!java\\.util\\.Arrays;)", "Arrays\\.(?!fill|copyOf)", "while \\(true\\)", "for \\(;;\\)"
+  };
+
+  private static int wrong = 0;
+
+  private static void rule(int number, boolean holds, String told) {
+    if (!holds) {
+      wrong++;
+      System.out.println("rule " + number + ": " + told);
+    }
+  }
+
+  private static Set<String> promisedFace(String document) {
+    Set<String> face = new TreeSet<>();
+    String shown = document.substring(document.indexOf("```java"), document.indexOf("## Terms"));
+    Matcher m = Pattern.compile("public (int|long) (\\w+)\\(([^)]*)\\)").matcher(shown);
+    while (m.find()) {
+      int parameters = m.group(3).isEmpty() ? 0 : m.group(3).split(",").length;
+      face.add(m.group(1) + " " + m.group(2) + " " + parameters);
+    }
+    return face;
+  }
+
+  private static void checkFace() throws IOException {
+    Set<String> face = new TreeSet<>();
+    Set<String> names = new TreeSet<>();
+    for (Method m : OneEach.class.getDeclaredMethods()) {
+      if (Modifier.isPublic(m.getModifiers())) {
+        face.add(m.getReturnType() + " " + m.getName() + " " + m.getParameterCount());
+        names.add(m.getName());
+      } else {
+        rule(1, Modifier.isPrivate(m.getModifiers()), "not private: " + m);
+      }
+    }
+    Set<String> promised = promisedFace(Files.readString(DOCUMENT));
+    rule(1, face.equals(promised), "the face is " + face + ", promised is " + promised);
+    rule(1, Modifier.isFinal(OneEach.class.getModifiers()), "not final");
+    rule(1, OneEach.class.getDeclaredConstructors().length == 1, "other constructors");
+    for (Class<?> c : allClasses()) {
+      for (Method m : c.getDeclaredMethods()) {
+        boolean bears = names.contains(m.getName()) && !Modifier.isPublic(m.getModifiers());
+        rule(1, !bears, "bears a public one's name: " + m);
+      }
+    }
+  }
+
+  private static List<Class<?>> allClasses() {
+    List<Class<?>> all = new ArrayList<>(List.of(OneEach.class.getDeclaredClasses()));
+    all.add(OneEach.class);
+    return all;
+  }
+
+  private static void checkClasses() {
+    rule(11, allClasses().size() <= 12, "more than twelve classes");
+    for (Class<?> c : allClasses()) {
+      int fields = 0;
+      for (Field f : c.getDeclaredFields()) {
+        if (Modifier.isStatic(f.getModifiers())) {
+          rule(5, Modifier.isFinal(f.getModifiers()), "a static field that isn't final: " + f);
+        } else {
+          fields++;
+          rule(1, Modifier.isPrivate(f.getModifiers()), "not private: " + f);
+        }
+      }
+      rule(11, fields <= 20, c + " has " + fields + " fields");
+      rule(2, c == OneEach.class || Modifier.isStatic(c.getModifiers()), c + " isn't static");
+      for (Method m : c.getDeclaredMethods()) {
+        rule(11, m.getParameterCount() <= 7, "too many parameters: " + m);
+      }
+    }
+  }
+
+  private static String withoutCommentsAndTexts(String line) {
+    return line.replaceAll("\"[^\"]*\"", "\"\"").replaceAll("//.*", "").replaceAll("^\\s*/?\\*.*", "");
+  }
+
+  private static void checkText() throws IOException {
+    List<String> lines = Files.readAllLines(PROGRAM);
+    int start = -1;
+    for (int i = 0; i < lines.size(); i++) {
+      String line = withoutCommentsAndTexts(lines.get(i));
+      for (String forbidden : FORBIDDEN) {
+        rule(4, !Pattern.compile(forbidden).matcher(line).find(), "line " + (i + 1) + ": " + lines.get(i).trim());
+      }
+      if (line.matches("^( {2}| {4})(public|private)[^=;]*\\).*\\{$")) {
+        start = i;
+      } else if (start >= 0 && line.matches("^( {2}| {4})}$")) {
+        rule(11, i - start <= 60, "a method of " + (i - start) + " lines ends on line " + (i + 1));
+        start = -1;
+      }
+    }
+  }
+
+  public static void main(String[] args) throws IOException {
+    checkFace();
+    checkClasses();
+    checkText();
+    System.out.println(wrong == 0 ? "the rules looked at hold" : wrong + " breaks of rules");
+    if (wrong != 0) {
+      System.exit(1);
+    }
+  }
+}
