@@ -1042,6 +1042,8 @@ public final class OneEach {
   /** Reads statements from bytes: first whether they are well formed, then whether they can be done. */
   private static final class TownText {
     private static final int NO_BYTE = -1000;
+    private static final int FAULT_OF_FORM = -1000;
+    private static final int FAULT_OF_DOING = -2000;
 
     private int[] bytes = new int[0];
     private int size = 0;
@@ -1061,7 +1063,7 @@ public final class OneEach {
       int statements = 0;
       do {
         if (!readStatement()) {
-          return -1000 - at;
+          return FAULT_OF_FORM - at;
         }
         statements++;
       } while (at < size && statements < ROW_SIZE);
@@ -1069,7 +1071,7 @@ public final class OneEach {
       for (int done = 0; done < statements; done++) {
         int start = at;
         if (!readStatement() || !doStatement(t)) {
-          return -2000 - start;
+          return FAULT_OF_DOING - start;
         }
       }
       return statements;

@@ -589,6 +589,10 @@ public final class Promises {
     due(20, "the third of three", x.shortest(2), 20);
     x = made("s1;s1;s1;pa;pa;pb;w00 10;w01 11;w02 13;w10 12;w11 0;w12 10;w21 99;w20 0;w22 0;", "i00;i12;i21;");
     due(20, "not one twice, out of the way of another", x.shortest(-1), -4);
+    x = made("s1;s1;s1;pa;pa;w00 12;w01 10;w02 0;w10 10;w11 0;w12 20;y121;l12a;i01;i10;");
+    due(20, "the second makes room for the first", x.shortest(-1), 2);
+    due(20, "the second ahead", x.shortest(0), 12);
+    due(20, "the first behind it", x.shortest(1), 0);
     x = made("s1;pa;i00;");
     due(20, "none", x.shortest(-1), -4);
     due(20, "none, the first", x.shortest(0), -4);
