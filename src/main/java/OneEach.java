@@ -232,10 +232,11 @@ public final class OneEach {
   }
 
   public int shortest(int i) {
-    if (i < -1 || i >= Trials.LONGEST) {
+    if (i < -1) {
       return NOT_AS_TOLD;
     }
     int steps = trials.findSteps(town);
+    // the document names no last i: one behind the last step is none, however far behind
     if (steps == 0 || i >= steps) {
       return NO_SUCH;
     }

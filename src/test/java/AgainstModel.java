@@ -601,7 +601,7 @@ public final class AgainstModel {
     }
 
     int shortest(int i) {
-      if (i < -1 || i > 2) {
+      if (i < -1) {
         return -1;
       }
       List<Integer> steps = w.shortest();
@@ -1135,7 +1135,7 @@ public final class AgainstModel {
       case 2 -> same(run, "stable", x.stable(), m.stable());
       case 3 -> same(run, "found " + p, x.found(p), m.found(p));
       case 4 -> {
-        for (int i = -2; i < 4; i++) {
+        for (int i = -2; i < 6; i++) {
           same(run, "shortest " + i, x.shortest(i), m.shortest(i));
         }
       }

@@ -574,8 +574,10 @@ public final class Promises {
     due(20, "the first one", x.shortest(0), 1);
     due(20, "no second", x.shortest(1), -4);
     due(20, "no third", x.shortest(2), -4);
-    due(20, "no fourth", x.shortest(3), -1);
+    due(20, "no fourth", x.shortest(3), -4);
+    due(20, "none far behind", x.shortest(Integer.MAX_VALUE), -4);
     due(20, "i -2", x.shortest(-2), -1);
+    due(20, "i far below", x.shortest(Integer.MIN_VALUE), -1);
     due(20, "in mind", x.person(0, 3), 0);
     x = made("s1;s1;pa;pb;w00 5;w01 20;w10 40;w11 10;i00;i11;");
     due(20, "two steps", x.shortest(-1), 2);
@@ -587,6 +589,8 @@ public final class Promises {
     due(20, "the first of three", x.shortest(0), 1);
     due(20, "the second of three", x.shortest(1), 12);
     due(20, "the third of three", x.shortest(2), 20);
+    due(20, "no fourth of three", x.shortest(3), -4);
+    due(20, "i -2 of three", x.shortest(-2), -1);
     x = made("s1;s1;s1;pa;pa;pb;w00 10;w01 11;w02 13;w10 12;w11 0;w12 10;w21 99;w20 0;w22 0;", "i00;i12;i21;");
     due(20, "not one twice, out of the way of another", x.shortest(-1), -4);
     x = made("s1;s1;s1;pa;pa;w00 12;w01 10;w02 0;w10 10;w11 0;w12 20;y121;l12a;i01;i10;");
@@ -596,7 +600,11 @@ public final class Promises {
     x = made("s1;pa;i00;");
     due(20, "none", x.shortest(-1), -4);
     due(20, "none, the first", x.shortest(0), -4);
+    due(20, "none, the fourth", x.shortest(3), -4);
+    due(20, "none, i -2", x.shortest(-2), -1);
     due(20, "without anybody", new OneEach().shortest(-1), -4);
+    due(20, "without anybody, the fourth", new OneEach().shortest(3), -4);
+    due(20, "without anybody, i -2", new OneEach().shortest(-2), -1);
     x = made("s2;s2;pa;pa;pa;w00 15;w01 20;w10 19;w11 20;w20 10;w21 11;l10a;i00;i10;i20;");
     due(20, "three of one craft can't be lawful in two streets", x.shortest(-1), -4);
   }
