@@ -906,7 +906,10 @@ public final class AgainstModel {
 
   private static final long IAE = Long.MIN_VALUE;
   private static final long ISE = Long.MIN_VALUE + 1;
-  private static final int CALLS = 36;
+  private static final int ROUNDS = 36;
+  private static final int MOST_CALLS = 512;
+  /** What the dearest round asks, a text of a hundred bytes. */
+  private static final int CALLS_OF_A_ROUND = 102;
 
   private static long state;
   private static int wrong = 0;
@@ -1154,10 +1157,11 @@ public final class AgainstModel {
     state = run * 2654435761L + 99;
     OneEach x = new OneEach();
     Model m = new Model();
+    long before = asked;
     int kinds = 2 + draw(7);
     give(run, x, m, draw(8), text(streets, people, kinds));
     give(run, x, m, draw(8), spoilt(text(draw(2), draw(2), 8)));
-    for (int call = 0; call < CALLS; call++) {
+    for (int round = 0; round < ROUNDS && asked - before + CALLS_OF_A_ROUND <= MOST_CALLS; round++) {
       int which = draw(20);
       if (which < 7) {
         callTown(x, m, run, draw(20));
@@ -1173,7 +1177,7 @@ public final class AgainstModel {
         give(run, x, m, draw(8), text(draw(2), draw(2), 8));
       }
     }
-    for (int i = 0; i < 100; i++) {
+    for (int i = 0; i < 100 && asked - before < MOST_CALLS; i++) {
       same(run, "element", elementOf(x, 0, i), m.element(0, i));
     }
   }
