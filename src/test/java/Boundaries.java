@@ -25,6 +25,7 @@ public final class Boundaries {
   private static final Path DOCUMENT = Path.of("../shared/DOC.md");
   private static final int MOST_CALLS = 512;
   private static final int ELEMENTS_WATCHED = 12;
+  private static final int MOST_SECONDS = 120;
   private static final Set<String> CHANGING =
       Set.of("town", "law", "lives", "move", "image", "restore", "keep", "row", "put", "copy");
 
@@ -46,7 +47,7 @@ public final class Boundaries {
   private static final Set<String> RANGES = new HashSet<>();
 
   private static String document = "";
-  private static String label = "";
+  private static volatile String label = "";
   private static int asked = 0;
   private static int watched = 0;
   private static int wrong = 0;
@@ -413,6 +414,8 @@ public final class Boundaries {
         town y010; = 1 | way(0, 1) = 0
         town y109; = 1 | way(0, 1) = 9
         town y = -1001
+        town y; = -1001
+        town y5; = -1002
         town y/15; = -1001
         town y:15; = -1001
         town y0 = -1002
@@ -473,6 +476,8 @@ public final class Boundaries {
         town w01 10; = 1 | wish(0, 1) = 10
         town w01 99; = 1 | wish(0, 1) = 99
         town w = -1001
+        town w; = -1001
+        town w 1; = -1001
         town w/1 1; = -1001
         town w:1 1; = -1001
         town w0 = -1002
@@ -501,6 +506,8 @@ public final class Boundaries {
         town l39abcdefgh; = 1 | law(0, 1) = 3 | law(1, 0) = 9 | law(2, 0) = 255
         town l25ah; = 1 | law(0, 1) = 2 | law(1, 0) = 5 | law(2, 0) = 129
         town l = -1001
+        town l; = -1001
+        town la; = -1001
         town l/0; = -1001
         town l:0; = -1001
         town l1 = -1002
@@ -519,6 +526,7 @@ public final class Boundaries {
     lines(2, "i, one of PEOPLE, a STREET (digits): it lives there.", ahead, """
         town i01; = 1 | person(0, 3) = 1
         town i = -1001
+        town i; = -1001
         town i/1; = -1001
         town i:1; = -1001
         town i0 = -1002
@@ -932,7 +940,7 @@ public final class Boundaries {
       boolean hasTo = kind != 0 && kind != 2 && kind != 6;
       runAll(13, read(RICH + thereOf(kind, 700, true) + thereOf(kind, 800, false) + thereOf(kind, 900, false)
           + thereOf(kind, 70, true) + thereOf(kind, 80, !hasOther) + thereOf(kind, 90, !hasOther)
-          + thereOf(kind, 4, true) + thereOf(kind, 5, !hasTo) + thereOf(kind, 9, !hasTo)), true);
+          + thereOf(kind, 14, true) + thereOf(kind, 15, !hasTo) + thereOf(kind, 19, !hasTo)), true);
       runAll(13, read("keep(4, 1, " + kind + ", 10) | wanted(4, 0) = -13 | made pa; | wanted(4, 0) = "
           + (hasTo || hasOther ? -13 : 0) + " | made pa; | wanted(4, 0) = " + (hasTo ? -13 : 0)), true);
     }
@@ -1743,7 +1751,23 @@ public final class Boundaries {
     }
   }
 
+  /** A call that doesn't end is a fault too, and must not keep .ci/run waiting. */
+  private static void failIfItNeverEnds() {
+    Thread guard = new Thread(() -> {
+      try {
+        Thread.sleep(MOST_SECONDS * 1000L);
+      } catch (InterruptedException e) {
+        return;
+      }
+      System.out.println(label + ": no end within " + MOST_SECONDS + " seconds");
+      Runtime.getRuntime().halt(1);
+    });
+    guard.setDaemon(true);
+    guard.start();
+  }
+
   public static void main(String[] args) throws IOException {
+    failIfItNeverEnds();
     document = plain(Files.readString(DOCUMENT));
     for (Method m : OneEach.class.getMethods()) {
       if (m.getDeclaringClass() == OneEach.class) {
