@@ -1625,6 +1625,24 @@ public final class Boundaries {
 
   // ---- what is said of all refusals
 
+  private static void refusalsOfTowns() {
+    test(29, "-2 no room", "made s1;s1;s1;s1; | newly(1) = 0 | made s1; | newly(1) = -2");
+    test(14, "-3 it can't be as things stand", """
+        restore() = -3 | length() = -3 | made s1;pa;i00; | length() = 1 | keep(0, 1, 1, 0) | move(0) = -3 | image() = 1
+        restore() = 1
+        """);
+    test(15, "JUDGED by the ROW in SHELF d; -4.", "judge = -4 | made pa; | judge 0 9 = -4 | judge 0 0 = 0 | judge 0 9 0 = 3");
+    test(22, "-4 none", """
+        made s1;pa;pa;pa; | person(0, 2) = -4 | person(0, 3) = -4 | firstUnlawful() = -4 | most(1) = -4 | best(1) = -4
+        found(1) = -4 | learn(0) = -4 | walk(0, 0) = -4 | judge = -4 | length() = -4 | lives(0, 0) = 9 | person(0, 3) = 0
+        where(1) = -4 | shortest(-1) = -4 | shortest(0) = -4 | walk(0, 0) = 0 | learn(0) = 1 | where(0) = 0
+
+        made s2;pa;pa;pa;l20; | most(1) = 0 | most(2) = -4 | best(1) = 0 | best(2) = -4 | found(1) = 0 | found(2) = -4
+        lives(2, 0) | lives(1, 0) | lives(0, 0) | firstUnlawful() = 0 | where(0) = -4 | where(2) = -4 | lives(2, 9)
+        where(1) = 0 | where(2) = -4
+        """);
+  }
+
   private static void refusalsOfShelves() {
     String ahead = "keep(0, 1, 1, 100) | row(1, 0, 2) | row(2, 1, 2)";
     String nothing = "-11 nothing is held where something is wanted";
@@ -1803,6 +1821,7 @@ public final class Boundaries {
     promise39();
     promise40();
     promise41();
+    refusalsOfTowns();
     refusalsOfShelves();
     severalRefusals();
     tellingCalls();
