@@ -13,6 +13,8 @@ public final class OneEach {
   private static final int FIRST_WISH = 10;
   private static final int SHELVES = 8;
   private static final int ROW_SIZE = 100;
+  private static final int MOST_YEARS = 30;
+  private static final int MOST_DEATH = 99;
 
   /** Where somebody is who lives in no street. */
   private static final int NOWHERE = 9;
@@ -376,7 +378,7 @@ public final class OneEach {
       shelves[d].holds = Shelf.NOTHING;
       return 0;
     }
-    if (what != 1 || k < 0 || k > Move.LAST_KIND || wot < 0 || wot > 999) {
+    if (what != 1 || k < 0 || k > Move.LAST_KIND || wot < 0 || wot > Move.LAST_WOT) {
       return NOT_AS_TOLD;
     }
     shelves[d].move.become(k, wot / 100, wot / 10 % 10, wot % 10);
@@ -481,7 +483,7 @@ public final class OneEach {
   }
 
   private static boolean areYears(int n, int death) {
-    return n >= 1 && n <= 30 && death >= 0 && death <= 99;
+    return n >= 1 && n <= MOST_YEARS && death >= 0 && death <= MOST_DEATH;
   }
 
   private static int oneIf(boolean so) {
@@ -916,6 +918,8 @@ public final class OneEach {
     private static final int TOLD = 6;
     private static final int HIDDEN = 7;
     private static final int LAST_KIND = HIDDEN;
+    /** One digit each for who, other and to, there or not. */
+    private static final int LAST_WOT = 999;
 
     private int kind = MOVE;
     private int who = 0;
@@ -1352,7 +1356,7 @@ public final class OneEach {
     private final int[] waited = new int[PEOPLE];
     private int gone = 0;
 
-    /** Does the move in then. */
+    /** In a town of its own, so that what may not be leaves no trace in the one that is. */
     private void attempt(Town now, Move move) {
       then.become(now);
       move.doIn(then);

@@ -1,17 +1,24 @@
 import java.io.IOException;
+import java.io.PrintWriter;
+import java.io.StringWriter;
 import java.lang.reflect.Field;
 import java.lang.reflect.Method;
 import java.lang.reflect.Modifier;
 import java.nio.file.Files;
 import java.nio.file.Path;
 import java.util.ArrayList;
+import java.util.HashMap;
+import java.util.HashSet;
 import java.util.List;
+import java.util.Map;
+import java.util.Optional;
 import java.util.Set;
 import java.util.TreeSet;
 import java.util.regex.Matcher;
 import java.util.regex.Pattern;
+import java.util.spi.ToolProvider;
 
-/** Those rules of ../shared/LANGUAGE.md that can be seen from outside or in the text of the program. */
+/** Those rules of ../shared/LANGUAGE.md that can be seen from outside, in the text or in the compiled program. */
 public final class LanguageRules {
   private static final Path PROGRAM = Path.of("src/main/java/OneEach.java");
   private static final Path DOCUMENT = Path.of("../shared/DOC.md");
@@ -113,10 +120,94 @@ public final class LanguageRules {
     }
   }
 
+  // ---- what the compiled program does
+
+  private static final Pattern METHOD = Pattern.compile("^  (\\S.*?)?([\\w$]+)\\(.*\\).*;$");
+  private static final Pattern CALLED = Pattern.compile("// Method (?:([\\w$]+)\\.)?(\\w+):");
+  private static final Pattern MADE = Pattern.compile(": (new|newarray|anewarray|multianewarray) .*?(\\w+)$");
+  private static final int MOST_DEEP = 8;
+
+  /** A method, by its class and name, and what it does. */
+  private static final class Seen {
+    private final Set<String> calls = new TreeSet<>();
+    private boolean isConstructor = false;
+    private boolean isPrivateStatic = false;
+    private boolean makes = false;
+    private boolean throwsIt = false;
+    private boolean catchesIt = false;
+  }
+
+  private static final Map<String, Seen> SEEN = new HashMap<>();
+
+  /** Without the tool this can't be looked at; a failure of its own tells it. */
+  private static void readCompiled() {
+    Optional<ToolProvider> javap = ToolProvider.findFirst("javap");
+    rule(11, javap.isPresent(), "the compiled program can't be read without javap");
+    for (Class<?> c : javap.isPresent() ? allClasses() : List.<Class<?>>of()) {
+      StringWriter told = new StringWriter();
+      PrintWriter out = new PrintWriter(told);
+      javap.get().run(out, out, "-c", "-p", "-cp", System.getProperty("java.class.path"), c.getName());
+      readClass(c.getName(), told.toString());
+    }
+  }
+
+  private static void readClass(String name, String told) {
+    Seen seen = new Seen();
+    for (String line : told.split("\n")) {
+      Matcher method = METHOD.matcher(line);
+      Matcher called = CALLED.matcher(line);
+      Matcher made = MADE.matcher(line);
+      if (method.matches()) {
+        seen = SEEN.computeIfAbsent(name + "." + method.group(2), k -> new Seen());
+        seen.isConstructor = method.group(2).equals(name);
+        seen.isPrivateStatic = line.startsWith("  private static ");
+      } else if (called.find()) {
+        seen.calls.add((called.group(1) == null ? name : called.group(1)) + "." + called.group(2));
+      } else if (made.find()) {
+        seen.makes |= !made.group(2).endsWith("Exception");
+      }
+      seen.throwsIt |= line.endsWith(": athrow");
+      seen.catchesIt |= line.contains("Exception table:");
+    }
+  }
+
+  /** How many calls stand open at most, the method's own too; one that calls itself is counted once. */
+  private static int depth(String method, Set<String> open) {
+    int deepest = 0;
+    for (String called : SEEN.get(method).calls) {
+      if (SEEN.containsKey(called) && !called.equals(method)) {
+        boolean isNew = open.add(called);
+        rule(8, isNew, method + " and " + called + " call one another");
+        deepest = Math.max(deepest, isNew ? depth(called, open) : 0);
+        open.remove(called);
+      }
+    }
+    return deepest + 1;
+  }
+
+  private static void checkCompiled() {
+    readCompiled();
+    int made = 0;
+    int deepest = 0;
+    for (String method : SEEN.keySet()) {
+      Seen seen = SEEN.get(method);
+      int deep = depth(method, new HashSet<>(Set.of(method)));
+      deepest = Math.max(deepest, deep);
+      made += seen.makes ? 1 : 0;
+      rule(11, deep <= MOST_DEEP, method + " goes " + deep + " deep");
+      rule(8, !seen.calls.contains(method) || seen.isPrivateStatic, method + " calls itself, but isn't private static");
+      rule(6, !seen.throwsIt || !seen.isConstructor, method + " is a constructor that throws");
+      rule(6, !seen.throwsIt || !seen.catchesIt, method + " throws and catches");
+      rule(12, !seen.makes || seen.isConstructor, method + " makes something that is no exception");
+    }
+    rule(12, made > 1 && deepest > 4, "the compiled program wasn't read as it should be");
+  }
+
   public static void main(String[] args) throws IOException {
     checkFace();
     checkClasses();
     checkText();
+    checkCompiled();
     System.out.println(wrong == 0 ? "the rules looked at hold" : wrong + " breaks of rules");
     if (wrong != 0) {
       System.exit(1);
