@@ -30,6 +30,9 @@ public final class LanguageRules {
     "^package ", "^import (?!java\\.util\\.Arrays;)", "Arrays\\.(?!fill|copyOf)", "while \\(true\\)", "for \\(;;\\)"
   };
 
+  /** The class, its constructor (promise 1) and a method for each other promise. */
+  private static final int PROMISED = 42;
+
   private static int wrong = 0;
 
   private static void rule(int number, boolean holds, String told) {
@@ -39,33 +42,43 @@ public final class LanguageRules {
     }
   }
 
-  private static Set<String> promisedFace(String document) {
+  /** All that is public, each as it is written, up to its body. */
+  private static Set<String> publicOf(String text) {
     Set<String> face = new TreeSet<>();
-    String shown = document.substring(document.indexOf("```java"), document.indexOf("## Terms"));
-    Matcher m = Pattern.compile("public (int|long) (\\w+)\\(([^)]*)\\)").matcher(shown);
+    Matcher m = Pattern.compile("public [^;{=]*").matcher(text);
     while (m.find()) {
-      int parameters = m.group(3).isEmpty() ? 0 : m.group(3).split(",").length;
-      face.add(m.group(1) + " " + m.group(2) + " " + parameters);
+      rule(1, face.add(m.group().strip()), "told twice: " + m.group());
     }
     return face;
   }
 
-  private static void checkFace() throws IOException {
-    Set<String> face = new TreeSet<>();
+  private static void checkWrittenFace() throws IOException {
+    String document = Files.readString(DOCUMENT);
+    String shown = document.substring(document.indexOf("```java"), document.indexOf("## Terms"));
+    Set<String> promised = publicOf(shown);
+    Set<String> written = publicOf(withoutComments(Files.readString(PROGRAM)));
+    rule(1, promised.size() == PROMISED, "the document promises " + promised.size());
+    rule(1, written.equals(promised), "public are " + written + ", promised are " + promised);
+  }
+
+  private static String withoutComments(String text) {
+    return text.replaceAll("(?s)/\\*.*?\\*/", "").replaceAll("//[^\n]*", "");
+  }
+
+  private static void checkFace() {
     Set<String> names = new TreeSet<>();
     for (Method m : OneEach.class.getDeclaredMethods()) {
       if (Modifier.isPublic(m.getModifiers())) {
-        face.add(m.getReturnType() + " " + m.getName() + " " + m.getParameterCount());
         names.add(m.getName());
+        boolean throwsTold = m.getExceptionTypes().length == (m.getName().equals("element") ? 2 : 0);
+        rule(1, throwsTold, "other exceptions: " + m);
       } else {
         rule(1, Modifier.isPrivate(m.getModifiers()), "not private: " + m);
       }
     }
-    Set<String> promised = promisedFace(Files.readString(DOCUMENT));
-    rule(1, face.equals(promised), "the face is " + face + ", promised is " + promised);
-    rule(1, Modifier.isFinal(OneEach.class.getModifiers()), "not final");
     rule(1, OneEach.class.getDeclaredConstructors().length == 1, "other constructors");
     for (Class<?> c : allClasses()) {
+      rule(1, c == OneEach.class || Modifier.isPrivate(c.getModifiers()), "not private: " + c);
       for (Method m : c.getDeclaredMethods()) {
         boolean bears = names.contains(m.getName()) && !Modifier.isPublic(m.getModifiers());
         rule(1, !bears, "bears a public one's name: " + m);
@@ -88,8 +101,8 @@ public final class LanguageRules {
           rule(5, Modifier.isFinal(f.getModifiers()), "a static field that isn't final: " + f);
         } else {
           fields++;
-          rule(1, Modifier.isPrivate(f.getModifiers()), "not private: " + f);
         }
+        rule(1, Modifier.isPrivate(f.getModifiers()), "not private: " + f);
       }
       rule(11, fields <= 20, c + " has " + fields + " fields");
       rule(2, c == OneEach.class || Modifier.isStatic(c.getModifiers()), c + " isn't static");
@@ -207,6 +220,7 @@ public final class LanguageRules {
 
   public static void main(String[] args) throws IOException {
     checkFace();
+    checkWrittenFace();
     checkClasses();
     checkText();
     checkCompiled();
